@@ -1486,8 +1486,6 @@ public final class PondHouse {
 
         private void openRule(Creature forCreature, int[] rule) {
             creature = forCreature;
-            at = forCreature.kind;
-            act = NONE;
             code = rule;
             place = 0;
             last = 0;
@@ -1580,9 +1578,7 @@ public final class PondHouse {
 
         /** A run of a creature's act from outside. */
         private int runAct(Creature creature, int name, int v) {
-            gave = 0;
-            failedWith = 0;
-            statements = 0;
+            forgetResults();
             Kind holder = creature.kind.holderOfAct(name);
             if (holder == null) {
                 return NO_ACT;
@@ -1594,7 +1590,14 @@ public final class PondHouse {
 
         /** The next run of a long act, whose body was begun before. */
         private int goOn(Frame frame) {
+            forgetResults();
             return go(frame, true);
+        }
+
+        private void forgetResults() {
+            gave = 0;
+            failedWith = 0;
+            statements = 0;
         }
 
         /** Works out a rule of a patch; false if it fails. Its value is what it gave. */
@@ -1616,9 +1619,6 @@ public final class PondHouse {
             waitingCount = 0;
             mayRest = rests;
             outcomeNow = NONE;
-            gave = 0;
-            failedWith = 0;
-            statements = 0;
             for (int i = 0; i < MOST_INSTRUCTIONS && outcomeNow == NONE; i++) {
                 Frame frame = frames[open];
                 int part = frame.nextPart();

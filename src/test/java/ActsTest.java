@@ -10,7 +10,96 @@ public final class ActsTest {
         depth();
         fuel();
         outcomes();
+        runsAreNew();
+        nameZero();
+        longestText();
         Checks.endWithCode();
+    }
+
+    /** Nothing of a run that failed deep inside, or of one ahead of it, is in the next. */
+    private static void runsAreNew() {
+        PondHouse h = Checks.house("kind a { field n = 0; act d { do e; n = n + 1; } act e { do f; n = n + 1; } act f { n = n + 1; n = n + 5 * (2 + (3 - 1 / 0)); }"
+                + " act g { give last + v; } act k { do g; do l; give last; } act l { give 4; } }");
+        int c = Checks.create(h, "a");
+        int d = Checks.n(h, "d");
+        int g = Checks.n(h, "g");
+        int k = Checks.n(h, "k");
+        for (int i = 1; i <= 70; i++) {
+            Checks.same("d", h.act(c, d, 3), 1);
+        }
+        Checks.same("told(2)", h.told(2), 4);
+        Checks.same("k", h.act(c, k, 9), 0);
+        Checks.same("gave", h.told(0), 4);
+        Checks.same("took", h.told(2), 5);
+        Checks.same("g", h.act(c, g, 5), 0);
+        Checks.same("last is 0 at first", h.told(0), 5);
+        Checks.same("k", h.act(c, k, 9), 0);
+        Checks.same("gave", h.told(0), 4);
+        Checks.same("n", Checks.value(h, c, "n"), 70);
+    }
+
+    /** The name with the number 0 is as good as any. */
+    private static void nameZero() {
+        PondHouse h = new PondHouse();
+        Checks.same("x is 0", Checks.n(h, "x"), 0);
+        Checks.same("pond", Checks.pond(h, "kind a { field x = 4; act g { x = x + 1; give x; } } kind b { static x = 7; act g { x = x + 1; give x; } }"
+                + " kind c { act x { give 9; } }"), 3);
+        Checks.create(h, "a");
+        Checks.create(h, "b");
+        Checks.create(h, "c");
+        Checks.yes("has", h.has(0, 0));
+        Checks.same("first value", h.value(0, 0), 4);
+        Checks.yes("put", h.put(0, 0, 5));
+        Checks.same("g", Checks.act(h, 0, "g", 0), 0);
+        Checks.same("gave", h.told(0), 6);
+        Checks.same("value", h.value(0, 0), 6);
+        Checks.same("sum", h.sum(0), 6);
+        Checks.same("g", Checks.act(h, 1, "g", 0), 0);
+        Checks.same("gave", h.told(0), 8);
+        Checks.same("fixed", h.fixed(Checks.n(h, "b"), 0), 8);
+        Checks.same("x", h.act(2, 0, 0), 0);
+        Checks.same("gave", h.told(0), 9);
+        Checks.yes("wake", h.wake(0));
+        h.beat();
+        Checks.same("outcome", h.outcome(2), 0);
+        Checks.same("ran", h.ran(0, 1), 0);
+        Checks.applies(h, "change a { drop x; }");
+        Checks.same("lost", h.value(0, 0), 6);
+        Checks.same("g", Checks.act(h, 0, "g", 0), 0);
+        Checks.same("gave", h.told(0), 7);
+        nameZeroInPatches();
+    }
+
+    private static void nameZeroInPatches() {
+        PondHouse h = new PondHouse();
+        Checks.same("x is 0", Checks.n(h, "x"), 0);
+        Checks.same("pond", Checks.pond(h, "kind a { field x = 4; act g { x = x + 1; } } kind b under a { field y = 5; static s = 6; }"
+                + " kind c { field z = 7; act g { give x; } }"), 3);
+        Checks.create(h, "b");
+        Checks.create(h, "c");
+        h.put(0, 0, 9);
+        Checks.applies(h, "change b { } change c { }");
+        Checks.same("x", h.value(0, 0), 9);
+        Checks.same("g", Checks.act(h, 1, "g", 0), 1);
+        Checks.same("x is not lost where it never was", h.told(1), 1001);
+        Checks.yes("back", h.back());
+        Checks.same("x", h.value(0, 0), 9);
+        Checks.same("y", Checks.value(h, 0, "y"), 5);
+    }
+
+    /** A text of a thousand bytes, with as many numbers as it can have. */
+    private static void longestText() {
+        StringBuilder text = new StringBuilder("kind a{act g{give 0");
+        while (text.length() < 995) {
+            text.append("+1");
+        }
+        text.append("; }}");
+        Checks.same("bytes", text.length(), 999);
+        PondHouse h = Checks.house(text + " ");
+        Checks.create(h, "a");
+        Checks.same("g", Checks.act(h, 0, "g", 0), 0);
+        Checks.same("gave", h.told(0), (995 - 19) / 2);
+        Checks.faulty(text.substring(0, 997) + "  ", 1, 999);
     }
 
     private static void numbers() {
@@ -216,8 +305,15 @@ public final class ActsTest {
         Checks.act(h, c, "f", 0);
         Checks.same("failed", h.told(1), 6);
         Checks.same("gave", h.told(0), 0);
+        Checks.same("no such act", Checks.act(h, c, "x", 0), 2);
+        Checks.same("failed", h.told(1), 0);
+        Checks.act(h, c, "f", 0);
         Checks.same("no such creature", Checks.act(h, 1, "g", 0), 3);
         Checks.same("failed", h.told(1), 0);
+        Checks.act(h, c, "g", 0);
+        Checks.same("no such creature", Checks.act(h, 1, "g", 0), 3);
+        Checks.same("gave", h.told(0), 0);
+        Checks.same("statements", h.told(2), 0);
         Checks.same("act(-1, ..)", Checks.act(h, -1, "g", 0), 3);
         Checks.same("act(40, ..)", Checks.act(h, 40, "g", 0), 3);
         Checks.same("neither creature nor act", Checks.act(h, 40, "x", 0), 3);

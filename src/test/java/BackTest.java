@@ -8,7 +8,34 @@ public final class BackTest {
         madeAndDropped();
         droppedAndNew();
         generationsGoOn();
+        kindsThatStayed();
+        creaturesApart();
         Checks.endWithCode();
+    }
+
+    private static void kindsThatStayed() {
+        PondHouse h = Checks.house("kind a { static s = 1; act g { s = s + 1; give s; } } kind b { }");
+        Checks.create(h, "a");
+        Checks.applies(h, "change b { }");
+        Checks.act(h, 0, "g", 0);
+        Checks.yes("back", h.back());
+        Checks.same("g", Checks.act(h, 0, "g", 0), 0);
+        Checks.same("gave", h.told(0), 3);
+        Checks.same("s", fixed(h, "a", "s"), 3);
+    }
+
+    /** What comes for one creature is nothing to the next. */
+    private static void creaturesApart() {
+        PondHouse h = Checks.house("kind a { field x = 1; } kind b { field x = 2; field q = 3; }");
+        Checks.create(h, "a");
+        Checks.create(h, "b");
+        Checks.applies(h, "change a { rename x q; } change b { drop x; }");
+        h.put(0, Checks.n(h, "q"), 10);
+        h.put(1, Checks.n(h, "q"), 30);
+        Checks.yes("back", h.back());
+        Checks.same("x of a", Checks.value(h, 0, "x"), 10);
+        Checks.same("x of b", Checks.value(h, 1, "x"), 2);
+        Checks.same("q of b", Checks.value(h, 1, "q"), 30);
     }
 
     private static void whenItCan() {

@@ -20,6 +20,8 @@ public final class BeatsTest {
         Checks.same("the second", h.beat(), 2);
         Checks.same("the third", h.beat(), 3);
         Checks.same("v is the beat", Checks.value(h, c, "n"), 23);
+        Checks.yes("wake(0), the first name", h.wake(0));
+        Checks.yes("wake", h.wake(Checks.n(h, "g")));
         Checks.no("wake(99)", h.wake(99));
         Checks.no("wake(-2)", h.wake(-2));
         Checks.no("wake(no name yet)", h.wake(4));
@@ -101,6 +103,8 @@ public final class BeatsTest {
         // the long act goes on and calls g
         ran(h, 3, 1, "g", "a", 0);
         Checks.same("no more", h.ran(4, 0), -1);
+        Checks.act(h, 0, "w", 0);
+        Checks.same("from outside none is noted behind a beat", h.ran(4, 0), -1);
         int name = h.ran(1, 2);
         Checks.pond(h, "kind z { }");
         Checks.same("a pond told since changes nothing", h.ran(1, 2), name);

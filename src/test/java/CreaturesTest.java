@@ -161,9 +161,10 @@ public final class CreaturesTest {
     }
 
     private static void pondToldAgain() {
-        PondHouse h = Checks.house("kind a { field x = 1; act g { rest; give 1; } }");
+        PondHouse h = Checks.house("kind a { field x = 1; field w = 4; act g { rest; give 1; } }");
         int c = Checks.create(h, "a");
-        Checks.applies(h, "change a { drop x; field y = 2; }");
+        Checks.applies(h, "change a { drop x; drop w; field y = 2; }");
+        Checks.same("w is lost", Checks.value(h, c, "w"), 4);
         int g = Checks.n(h, "g");
         Checks.same("begin", h.begin(c, g, 0), 0);
         Checks.yes("wake", h.wake(g));
@@ -181,6 +182,7 @@ public final class CreaturesTest {
         Checks.same("a creature from 0 on", h.create(Checks.n(h, "a")), 0);
         Checks.same("no beat with it yet", h.outcome(0), 3);
         Checks.same("nothing is lost", Checks.value(h, 0, "y"), 0);
+        Checks.same("nor what was lost of another pond", Checks.value(h, 0, "w"), 0);
         Checks.same("its first value", Checks.value(h, 0, "x"), 5);
         Checks.same("beats go on", h.beat(), 2);
         Checks.same("no act is called", h.outcome(0), 2);

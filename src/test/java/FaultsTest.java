@@ -57,6 +57,12 @@ public final class FaultsTest {
         Checks.faulty("kind a { } field", 1, 11);
         Checks.faulty("kind a { x }", 1, 9);
         Checks.faulty("kind a { field x; }", 1, 16);
+        Checks.faulty("kind a { field x }", 1, 17);
+        Checks.faulty("kind a { field x = }", 1, 19);
+        Checks.faulty("kind a { link x }", 1, 16);
+        Checks.faulty("kind a { act }", 1, 13);
+        Checks.faulty("kind a", 1, 6);
+        Checks.faulty("kind a kind b { }", 1, 7);
         Checks.faulty("kind a { field x = y; }", 1, 19);
         Checks.faulty("kind a { field x = - - 1; }", 1, 21);
         Checks.faulty("kind a { field x = 1 + 1; }", 1, 21);
@@ -109,6 +115,13 @@ public final class FaultsTest {
         Checks.faultyPatch("kind a { } )", 1, 11);
         Checks.faultyPatch("kind a { drop x; }", 1, 9);
         Checks.faultyPatch("change a;", 1, 8);
+        Checks.faultyPatch("change a", 1, 8);
+        Checks.faultyPatch("change", 1, 6);
+        Checks.faultyPatch("change a { rename x }", 1, 20);
+        Checks.faultyPatch("change a { drop }", 1, 16);
+        Checks.faultyPatch("change a { carry x }", 1, 19);
+        Checks.faultyPatch("change a { drop x }", 1, 18);
+        Checks.faultyPatch("change a { field x }", 1, 19);
         Checks.faultyPatch("change a { move b; }", 1, 11);
         Checks.faultyPatch("change a { rename x; }", 1, 19);
         Checks.faultyPatch("change a { rename x y }", 1, 22);

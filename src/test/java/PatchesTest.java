@@ -18,7 +18,50 @@ public final class PatchesTest {
         statics();
         acts();
         ending();
+        whatIsBehindADroppedOne();
+        rulesAreNew();
         Checks.endWithCode();
+    }
+
+    private static void whatIsBehindADroppedOne() {
+        PondHouse h = Checks.house("kind a { field x = 1; field y = 2; link z; field w = 4; act f { give 1; } act g { give 2; } act h { give 3; } act i { give 4; } }");
+        Checks.create(h, "a");
+        Checks.applies(h, "change a { drop x; drop f; static n = 5; static m = 6; static k = 7; drop n; drop h; }");
+        int c = Checks.create(h, "a");
+        Checks.same("y", Checks.value(h, c, "y"), 2);
+        Checks.same("z", Checks.value(h, c, "z"), -1);
+        Checks.same("w", Checks.value(h, c, "w"), 4);
+        Checks.same("m", fixed(h, "a", "m"), 6);
+        Checks.same("k", fixed(h, "a", "k"), 7);
+        gave(h, c, "g", 2);
+        gave(h, c, "i", 4);
+        Checks.same("f", Checks.act(h, c, "f", 0), 2);
+        Checks.same("h", Checks.act(h, c, "h", 0), 2);
+        Checks.applies(h, "change a { rename y q; }");
+        Checks.same("q", Checks.value(h, c, "q"), 2);
+        Checks.same("z", Checks.value(h, c, "z"), -1);
+        Checks.same("y is not lost", Checks.value(h, c, "y"), 0);
+    }
+
+    /** In a rule v and last are 0, whatever ran ahead of it; one that failed leaves nothing. */
+    private static void rulesAreNew() {
+        PondHouse h = Checks.house("kind a { field x = 1; act g { do h; x = v; fail last; } act h { give 8; } }");
+        Checks.create(h, "a");
+        int k = Checks.patch(h, "change a { carry x 2 * (3 + 1 / x); }");
+        h.put(0, Checks.n(h, "x"), 0);
+        for (int i = 0; i < 70; i++) {
+            Checks.same("it fails", make(h, k), 4);
+        }
+        Checks.act(h, 0, "g", 7);
+        Checks.same("failed with last", h.told(1), 8);
+        Checks.applies(h, "change a { carry x 5 + 100 * v + 10 * last; } check a v == 0; check a last == 0;");
+        Checks.same("x", Checks.value(h, 0, "x"), 5);
+    }
+
+    private static int make(PondHouse h, int k) {
+        h.apply(k);
+        h.beat();
+        return h.applied(k);
     }
 
     private static void callingFor() {
