@@ -179,6 +179,10 @@ public final class PondHouse {
     }
 
     public int patch() {
+        if (patcher.isFull()) {
+            reader.passOver();
+            return NONE;
+        }
         if (!reader.readText(null)) {
             return NONE;
         }
@@ -610,14 +614,24 @@ public final class PondHouse {
             return sortNow() == TEXT_END ? number : NONE;
         }
 
+        /** Empties the tape unread: its names get no numbers, and it has no fault. */
+        private void passOver() {
+            tokens.length = 0;
+            forgetFault();
+        }
+
+        private void forgetFault() {
+            faultSort = 0;
+            faultPlace = NONE;
+        }
+
         /** Reads the tape as a pond that is built, or, where none is given, as a patch. */
         private boolean readText(Pond toBuild) {
             tokens.cut();
             building = toBuild;
             steps = new ArrayList<Step>();
             next = 0;
-            faultSort = 0;
-            faultPlace = NONE;
+            forgetFault();
             boolean fine = true;
             // A text has at least one change.
             for (change = 0; fine && change < MOST_BYTES; change++) {
@@ -1904,8 +1918,12 @@ public final class PondHouse {
             generation = 0;
         }
 
+        private boolean isFull() {
+            return kept >= MOST_PATCHES;
+        }
+
         private int keep(ArrayList<Step> steps) {
-            if (kept >= MOST_PATCHES) {
+            if (isFull()) {
                 return NONE;
             }
             patches[kept] = new Patch(steps);

@@ -13,6 +13,8 @@ public final class FaultsTest {
         faultsOfPonds();
         ordersAtOnePlace();
         whatFaultTells();
+        aSeventhPatch();
+        roomForPatches();
         Checks.endWithCode();
     }
 
@@ -258,13 +260,60 @@ public final class FaultsTest {
         for (int k = 2; k < 6; k++) {
             Checks.same("patch", Checks.patch(h, "drop a;"), k);
         }
-        Checks.same("a seventh with a fault", Checks.patch(h, "drop ?;"), -1);
-        Checks.same("a seventh", Checks.patch(h, "drop a;"), -1);
-        Checks.same("fault", h.fault(0), 0);
-        Checks.same("place", h.fault(1), -1);
-        Checks.no("the tape is empty", h.end(1));
         Checks.same("a pond lets patches go", Checks.pond(h, "kind a { }"), 1);
         Checks.same("fault", h.fault(0), 0);
+        Checks.same("patch", Checks.patch(h, "drop a;"), 0);
+    }
+
+    /** A house that keeps six patches; its names are a and b. */
+    private static PondHouse fullHouse() {
+        PondHouse h = Checks.house("kind a { field b = 1; }");
+        for (int k = 0; k < 6; k++) {
+            Checks.same("patch", Checks.patch(h, "drop a;"), k);
+        }
+        return h;
+    }
+
+    /** With six kept a text is not read: no fault, no names, an empty tape, whatever stands in it. */
+    private static void aSeventhPatch() {
+        String[] texts = {
+            "drop a;", "drop q;", "kind q { field r = 1; act s { t = u; } }", "", "drop", "drop ?;", "drop q; drop 1;",
+            "kind q { act r { if 1 { rest; } } }", "kind q { act r { x = ((((((((((((((1)))))))))))))); } }", "\u0000\u00ff",
+        };
+        for (String text : texts) {
+            PondHouse h = fullHouse();
+            Checks.same("pond with a fault", Checks.pond(h, "kind 1"), -1);
+            Checks.same("fault", h.fault(0), 1);
+            Checks.same("its place", h.fault(1), 5);
+            Checks.same("a seventh " + text, Checks.patch(h, text), -1);
+            Checks.same("fault behind " + text, h.fault(0), 0);
+            Checks.same("place behind " + text, h.fault(1), -1);
+            Checks.no("the tape is empty behind " + text, h.end(1));
+            Checks.no("no seventh is kept", h.apply(6));
+            Checks.same("nothing of a seventh", h.applied(6), -1);
+            Checks.same("a name only in a seventh has a number by word()", Checks.n(h, "r"), 2);
+            Checks.same("and the next one", Checks.n(h, "q"), 3);
+        }
+    }
+
+    /** Taking a patch back, giving it up or refusing it makes no room; a pond does. */
+    private static void roomForPatches() {
+        PondHouse h = fullHouse();
+        Checks.same("applied", Checks.make(h, 0), 2);
+        Checks.same("a seventh", Checks.patch(h, "drop z;"), -1);
+        Checks.same("refused", Checks.make(h, 1), 4);
+        Checks.same("a seventh", Checks.patch(h, "drop z;"), -1);
+        Checks.yes("back", h.back());
+        Checks.same("a seventh", Checks.patch(h, "drop z;"), -1);
+        Checks.same("a pond with a fault", Checks.pond(h, "kind a { } ;"), -1);
+        Checks.same("a seventh", Checks.patch(h, "drop 1;"), -1);
+        Checks.same("fault", h.fault(0), 0);
+        Checks.same("no names by them", Checks.n(h, "w"), 2);
+        Checks.same("a pond lets patches go", Checks.pond(h, "kind a { }"), 1);
+        Checks.same("patch with a fault", Checks.patch(h, "drop y; drop 1;"), -1);
+        Checks.same("fault", h.fault(0), 1);
+        Checks.same("place", h.fault(1), 13);
+        Checks.same("it is read", Checks.n(h, "x"), 4);
         Checks.same("patch", Checks.patch(h, "drop a;"), 0);
     }
 }
