@@ -492,7 +492,7 @@ public final class PondHouse {
             if (c == ' ' || c == '\n') {
                 return 1;
             }
-            if (isLetter(c)) {
+            if (isSmallLetter(c)) {
                 return cutName(at);
             }
             if (isDigit(c)) {
@@ -509,7 +509,7 @@ public final class PondHouse {
         private int cutName(int at) {
             int end = at;
             int key = 0;
-            for (; end < length && isLetter(tape[end]); end++) {
+            for (; end < length && isSmallLetter(tape[end]); end++) {
                 if (end - at < MOST_LETTERS) {
                     key = withLetter(key, tape[end]);
                 }
@@ -533,7 +533,7 @@ public final class PondHouse {
                     number = number * 10 + tape[end] - '0';
                 }
             }
-            boolean letterBehind = end < length && isLetter(tape[end]);
+            boolean letterBehind = end < length && isAnyLetter(tape[end]);
             boolean fine = end - at <= MOST_DIGITS && !letterBehind;
             addToken(fine ? NUMBER : NO_TOKEN, at, number);
             return end - at;
@@ -552,8 +552,13 @@ public final class PondHouse {
             return key * 27 + letter - 'a' + 1;
         }
 
-        private static boolean isLetter(int c) {
+        private static boolean isSmallLetter(int c) {
             return c >= 'a' && c <= 'z';
+        }
+
+        /** Names have small letters alone, but behind a number none of either sort may stand. */
+        private static boolean isAnyLetter(int c) {
+            return isSmallLetter(c) || c >= 'A' && c <= 'Z';
         }
 
         private static boolean isDigit(int c) {

@@ -3,6 +3,8 @@ public final class FaultsTest {
     public static void main(String[] args) {
         ends();
         tokens();
+        lettersBehindNumbers();
+        signsBehindNumbers();
         members();
         statements();
         expressions();
@@ -52,6 +54,52 @@ public final class FaultsTest {
         Checks.same("six digits", h.told(0), 999999);
         // a number may stand right behind a name
         Checks.yes("check a5", Checks.patch(h, "check a5;") >= 0);
+    }
+
+    /** Wherever a number can stand, what has a letter right behind it is none: the fault is at its digits. */
+    private static void lettersBehindNumbers() {
+        for (int i = 0; i < 26; i++) {
+            letterBehindNumbers((char) ('a' + i));
+            letterBehindNumbers((char) ('A' + i));
+        }
+        Checks.faulty("kind a { act g { x = 1 < 2Z; } }", 1, 25);
+        Checks.faulty("kind a { act g { x = (3Q); } }", 1, 22);
+        Checks.faulty("kind a { act g { x = 1 * -00M; } }", 1, 26);
+        Checks.faulty("kind a { act g { fail 7F; } }", 1, 22);
+        Checks.faulty("kind a { act g { give 1 B; } }", 1, 24);
+        Checks.faulty("kind a { act g { give 1 b; } }", 1, 24);
+        PondHouse h = new PondHouse();
+        Checks.same("patch", Checks.patch(h, "change a { drop b; } check c 1D;"), -1);
+        Checks.same("c has a number", Checks.n(h, "c"), 2);
+        Checks.same("what stands behind the fault has none", Checks.n(h, "d"), 3);
+        Checks.tape(h, "1E");
+        Checks.same("no word", h.word(), -1);
+        Checks.tape(h, "e1E");
+        Checks.same("a name and more", h.word(), -1);
+        Checks.same("e has a number", Checks.n(h, "e"), 4);
+    }
+
+    private static void letterBehindNumbers(char letter) {
+        Checks.faulty("kind a { field x = 1" + letter + "; }", 1, 19);
+        Checks.faulty("kind a { field x = - 123456" + letter + "; }", 1, 21);
+        Checks.faulty("kind a { static x = 0" + letter + "x; }", 1, 20);
+        Checks.faulty("kind a { field x = 1234567" + letter + "; }", 1, 19);
+        Checks.faulty("kind a { act g { give 12" + letter + " 3; } }", 1, 22);
+        Checks.faulty("kind a { act g { if 12" + letter + "{ } } }", 1, 20);
+        Checks.faultyPatch("change a { field x = 1" + letter + "; }", 1, 21);
+        Checks.faultyPatch("change a { carry x 1" + letter + "; }", 1, 19);
+        Checks.faultyPatch("check a 1" + letter, 1, 8);
+    }
+
+    /** What is no letter, the neighbours of the letters among it, lets the number stand. */
+    private static void signsBehindNumbers() {
+        char[] others = {'@', '[', '`', '|', '_', '.', '"', (char) 0, (char) 127, (char) 128, (char) 255};
+        for (char other : others) {
+            Checks.faulty("kind a { field x = 12" + other + "; }", 1, 21);
+            Checks.faultyPatch("check a 12" + other + ";", 1, 10);
+        }
+        Checks.same("signs right behind", Checks.pond(new PondHouse(),
+                "kind a{field x=1;act g{if 1{x=(2)*3-4/5<6;}else{x=7==8+9;}give 1\n;}}"), 1);
     }
 
     private static void members() {
