@@ -35,10 +35,10 @@ public final class BeatsTest {
         h.beat();
         Checks.same("outcome", h.outcome(c), 2);
         Checks.yes("wake", h.wake(Checks.n(h, "f")));
-        for (int i = 7; i <= 480; i++) {
+        for (int i = 7; i <= 450; i++) {
             Checks.same("beat", h.beat(), i);
         }
-        Checks.same("n", Checks.value(h, c, "n"), 234 + 474);
+        Checks.same("n", Checks.value(h, c, "n"), 234 + 444);
     }
 
     private static void outcomes() {

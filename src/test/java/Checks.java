@@ -105,6 +105,45 @@ final class Checks {
         same("fault(1) of " + text, house.fault(1), place);
     }
 
+    /** The text is a pond with this fault at the place that ^ marks. */
+    static void pondFault(int fault, String marked) {
+        faulty(marked.replace("^", ""), fault, marked.indexOf('^'));
+    }
+
+    /** The text is a patch with this fault at the place that ^ marks. */
+    static void patchFault(int fault, String marked) {
+        faultyPatch(marked.replace("^", ""), fault, marked.indexOf('^'));
+    }
+
+    /** The text is a pond of so many kinds. */
+    static void pondFine(int kinds, String text) {
+        same("pond " + text, pond(new PondHouse(), text), kinds);
+    }
+
+    /** The text is a patch. */
+    static void patchFine(String text) {
+        same("patch " + text, patch(new PondHouse(), text), 0);
+    }
+
+    /** So many times this, for texts that are full. */
+    static String times(int count, String part) {
+        return part.repeat(count);
+    }
+
+    /** The i-th of 40 names that are no words and have no letters in common with those of the tests. */
+    static String name(int i) {
+        return "n" + (char) ('a' + i / 20) + (char) ('a' + i % 20);
+    }
+
+    /** A house that has read so many names. */
+    static PondHouse houseOfNames(int count) {
+        PondHouse house = new PondHouse();
+        for (int i = 0; i < count; i++) {
+            same("name", n(house, name(i)), i);
+        }
+        return house;
+    }
+
     /** An act g with this body gives this. */
     static void gives(String body, int v, int due) {
         PondHouse house = house("kind a { field x = 7; static s = 9; link l; act g " + body + " }");
