@@ -55,6 +55,7 @@ public final class BordersOfPatchesTest {
         comesOfAnotherKind();
         comesNotOfWhatIsGone();
         lostAndTheLatestLost();
+        notLostWhereARuleIs();
         carriedOnlyWhereChanged();
         endedCreatures();
         droppedAndNewInOne();
@@ -929,6 +930,16 @@ public final class BordersOfPatchesTest {
         Checks.same("the latest x", Checks.value(h, 0, "x"), MAX);
         Checks.same("l", Checks.value(h, 0, "l"), -1);
         Checks.same("y still", Checks.value(h, 0, "y"), 2);
+    }
+
+    /** "from which none COMES": a field that comes from it, but has its value by a rule, is one. */
+    private static void notLostWhereARuleIs() {
+        PondHouse h = Checks.house("kind a { field x = 1; field y = 2; }");
+        Checks.create(h, "a");
+        Checks.applies(h, "change a { rename x n; carry n 7; drop y; carry n y; }");
+        Checks.same("n", Checks.value(h, 0, "n"), 2);
+        Checks.same("x is not lost", Checks.value(h, 0, "x"), 0);
+        Checks.same("y is, though the rule has it", Checks.value(h, 0, "y"), 2);
     }
 
     private static void carriedOnlyWhereChanged() {

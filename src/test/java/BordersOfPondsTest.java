@@ -24,6 +24,7 @@ public final class BordersOfPondsTest {
         twelveKindsInOneChain();
         thirteenKinds();
         membersOfItsOwn();
+        membersInAnyOrder();
         tooManyMembers();
         twiceTheSameKind();
         twiceTheSameMember();
@@ -461,6 +462,22 @@ public final class BordersOfPondsTest {
         }
         for (int i = 24; i < 37; i++) {
             Checks.same("act", Checks.act(h, c, Checks.name(i), 0), 0);
+        }
+    }
+
+    /** The rows of the three sorts are full each by itself, in whatever order they fill. */
+    private static void membersInAnyOrder() {
+        String[] parts = {members("static ", "=2;", 16, 20), members("act ", "{}", 24, 32), members("field ", "=1;", 0, 4), members("link ", ";", 4, 8)};
+        for (int turn = 0; turn < 4; turn++) {
+            StringBuilder text = new StringBuilder("kind a{");
+            for (int i = 0; i < 4; i++) {
+                text.append(parts[(turn + i) % 4]);
+            }
+            Checks.pondFine(1, text + "}");
+            Checks.pondFault(5, text + "field ^b=1;}");
+            Checks.pondFault(5, text + "static ^b=1;}");
+            Checks.pondFault(5, text + "act ^b{}}");
+            Checks.applies(Checks.house("kind b { }"), text + "}");
         }
     }
 
