@@ -40,6 +40,7 @@ public final class BordersOfPatchesTest {
         checksOfWhatIsNew();
         checksUpToTheLastCreature();
         refusedAllIsAsItWas();
+        refusedAllElseIsAsItWas();
         refusalOfTheLatest();
         refusalAheadOfAny();
         generationsOneByOne();
@@ -686,6 +687,33 @@ public final class BordersOfPatchesTest {
             Checks.same("as before", h.told(0), 0);
             Checks.no("nothing to take back", h.back());
         }
+    }
+
+    /** Statics, what is lost, long acts and the patch that back() takes are as they were, too. */
+    private static void refusedAllElseIsAsItWas() {
+        PondHouse h = Checks.house("kind a { field x = 1; static s = 2; act g { s = s + 1; rest; s = s + 10; rest; s = s + 100; } } kind b { act g { rest; rest; } }");
+        Checks.create(h, "a");
+        Checks.create(h, "b");
+        Checks.applies(h, "change a { drop x; }");
+        h.begin(0, Checks.n(h, "g"), 0);
+        h.begin(1, Checks.n(h, "g"), 0);
+        Checks.refuses(h, "change a { field x = 5; drop s; static t = 6; act g { } } drop b; check a 0;", 10, 2, 0);
+        Checks.same("what is lost", Checks.value(h, 0, "x"), 1);
+        Checks.no("no field", Checks.has(h, 0, "x"));
+        Checks.same("s", fixed(h, "a", "s"), 3);
+        Checks.same("no t", fixed(h, "a", "t"), 0);
+        for (int l = 0; l < 2; l++) {
+            Checks.same("under way", h.under(l, 0), 1);
+            Checks.same("runs", h.under(l, 1), 1);
+        }
+        h.beat();
+        Checks.same("it goes on", fixed(h, "a", "s"), 13);
+        Checks.same("the former body is begun", h.begin(0, Checks.n(h, "g"), 0), 2);
+        h.beat();
+        Checks.same("all of them", fixed(h, "a", "s"), 114);
+        Checks.yes("back of the one ahead of it", h.back());
+        Checks.same("x", Checks.value(h, 0, "x"), 1);
+        Checks.yes("is a field", Checks.has(h, 0, "x"));
     }
 
     /** "Of the latest PATCH that was REFUSED" */

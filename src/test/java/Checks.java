@@ -125,12 +125,12 @@ final class Checks {
         same("patch " + text, patch(new PondHouse(), text), 0);
     }
 
-    /** So many times this, for texts that are full. */
+    /** The part so many times, for texts that are full. */
     static String times(int count, String part) {
         return part.repeat(count);
     }
 
-    /** The i-th of 40 names that are no words and have no letters in common with those of the tests. */
+    /** The i-th of 40 names, naa, nab, .. nbt, for texts that need many. */
     static String name(int i) {
         return "n" + (char) ('a' + i / 20) + (char) ('a' + i % 20);
     }
