@@ -863,43 +863,46 @@ public final class PondHouse {
             }
             statements++;
             write(STATEMENT);
-            if (sort == IF) {
-                return readIf(open);
-            }
-            return (sort == NAME ? readAssignment(open) : readPlain(sort, open)) && pass(';');
-        }
-
-        private boolean readAssignment(int open) {
-            int name = readName();
-            if (name == NONE || !pass('=') || !readE(0, open)) {
-                return false;
-            }
-            write('=');
-            write(name);
-            return true;
-        }
-
-        private boolean readPlain(int sort, int open) {
-            next++;
-            if (sort == GIVE || sort == FAIL) {
-                if (!readE(0, open)) {
-                    return false;
-                }
-                write(sort);
-            } else if (sort == DO || sort == SEND) {
-                int name = readName();
-                if (sort == SEND && name != NONE) {
-                    write(NAME);
+            switch (sort) {
+                case IF:
+                    return readIf(open);
+                case NAME:
+                    int name = readName();
+                    if (name == NONE || !pass('=') || !readE(0, open)) {
+                        return false;
+                    }
+                    write('=');
                     write(name);
-                    name = readName();
-                }
-                if (name == NONE) {
+                    return pass(';');
+                case GIVE:
+                case FAIL:
+                    next++;
+                    if (!readE(0, open)) {
+                        return false;
+                    }
+                    write(sort);
+                    return pass(';');
+                default:
+                    return readPlain(sort) && pass(';');
+            }
+        }
+
+        /** A statement without an E: above, do, send or rest. */
+        private boolean readPlain(int sort) {
+            next++;
+            if (sort == SEND) {
+                int link = readName();
+                if (link == NONE) {
                     return false;
                 }
-                write(sort);
-                write(name);
-            } else {
-                write(sort);
+                write(NAME);
+                write(link);
+            }
+            write(sort);
+            if (sort == DO || sort == SEND) {
+                int act = readName();
+                write(act);
+                return act != NONE;
             }
             return true;
         }
@@ -1022,13 +1025,17 @@ public final class PondHouse {
         }
 
         private int numberOf(int key) {
-            int number = placeIn(nameKeys, nameCount, key);
-            if (number == NONE && nameCount < MOST_NAMES) {
-                number = nameCount;
-                nameKeys[number] = key;
-                nameCount++;
+            for (int i = 0; i < nameCount; i++) {
+                if (nameKeys[i] == key) {
+                    return i;
+                }
             }
-            return number;
+            if (nameCount >= MOST_NAMES) {
+                return NONE;
+            }
+            nameKeys[nameCount] = key;
+            nameCount++;
+            return nameCount - 1;
         }
 
         private int sortNow() {

@@ -32,6 +32,7 @@ public final class BordersOfTextsTest {
         thirteenMinuses();
         thirteenIfs();
         thirteenOfAllSorts();
+        openAroundEachStatement();
         signsOpenInRules();
         signsThatClose();
         sixtyOneStatements();
@@ -462,6 +463,22 @@ public final class BordersOfTextsTest {
         Checks.pondFault(3, "kind a { act g { " + six + "give (-(-(-^(1)))); " + closed + "} }");
         Checks.pondFault(3, "kind a { act g { " + six + "if -(-(-^(v))) { } " + closed + "} }");
         Checks.pondFine(1, "kind a { act g { " + six + "if -(-(-v)) { } " + closed + "} }");
+    }
+
+    /** What is open around a STATEMENT is open in its E, whichever STATEMENT it is. */
+    private static void openAroundEachStatement() {
+        openAround("x = ", 9, ";");
+        openAround("give ", 9, ";");
+        openAround("fail ", 9, ";");
+        openAround("if ", 8, " { }");
+    }
+
+    private static void openAround(String head, int room, String end) {
+        String ahead = "kind a { act g { if v { if v { } else { if v { " + head + Checks.times(room, "(");
+        String behind = Checks.times(room, ")") + end + " } } } } }";
+        Checks.pondFine(1, ahead + "1" + behind);
+        Checks.pondFault(3, ahead + "^(1)" + behind);
+        Checks.pondFault(3, ahead + "^-1" + behind);
     }
 
     /** The 13th that is open counts in the E of a rule, too, each by itself. */
