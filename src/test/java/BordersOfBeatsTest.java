@@ -36,6 +36,7 @@ public final class BordersOfBeatsTest {
         overByFailing();
         overByCalls();
         overByItsCreature();
+        allTenOverByTheirCreature();
         behindTheCreatures();
         longActsByNumbers();
         theBodyIsFixed();
@@ -577,6 +578,19 @@ public final class BordersOfBeatsTest {
         Checks.same("without a run", h.under(0, 1), 0);
         Checks.same("outcome", h.under(0, 2), 3);
         Checks.same("the other goes on", h.under(1, 0), 1);
+    }
+
+    private static void allTenOverByTheirCreature() {
+        PondHouse h = Checks.house("kind a { act g { rest; rest; rest; rest; } } kind b under a { }");
+        Checks.create(h, "b");
+        for (int l = 0; l < 10; l++) {
+            Checks.same("begin", h.begin(0, Checks.n(h, "g"), 0), l);
+        }
+        Checks.applies(h, "drop b;");
+        for (int l = 0; l < 10; l++) {
+            Checks.same("over", h.under(l, 0), 0);
+            Checks.same("outcome", h.under(l, 2), 3);
+        }
     }
 
     /** "At each beat, behind the CREATURES" */

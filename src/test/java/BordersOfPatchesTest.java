@@ -69,6 +69,9 @@ public final class BordersOfPatchesTest {
         backOfCreatures();
         backOfMadeAndDropped();
         backOfStatics();
+        backOfFortyCreatures();
+        backOfEightFields();
+        newStaticsBesideDroppedOnes();
         backLosesNothing();
         Checks.endWithCode();
     }
@@ -1167,5 +1170,54 @@ public final class BordersOfPatchesTest {
         Checks.same("m", Checks.value(h, 0, "m"), 0);
         Checks.same("g", Checks.act(h, 0, "g", 0), 1);
         Checks.same("with 1001", h.told(1), 1001);
+    }
+
+    /** "For the others of KINDS that it changed": up to creature 39. */
+    private static void backOfFortyCreatures() {
+        PondHouse h = Checks.house("kind a { field x = 1; } kind b { }");
+        for (int c = 0; c < 40; c++) {
+            Checks.same("create", h.create(Checks.n(h, c % 2 == 1 ? "a" : "b")), c);
+        }
+        Checks.applies(h, "change a { rename x y; } drop b;");
+        put(h, 1, "y", 5);
+        put(h, 39, "y", 6);
+        Checks.yes("back", h.back());
+        Checks.same("creature 1", Checks.value(h, 1, "x"), 5);
+        Checks.same("creature 39", Checks.value(h, 39, "x"), 6);
+        Checks.same("its generation", h.generation(39), 0);
+        Checks.same("one of what was dropped", h.kindOf(38), -1);
+        Checks.applies(h, "kind c { }");
+        Checks.yes("back", h.back());
+        Checks.same("creature 39 stays", Checks.value(h, 39, "x"), 6);
+    }
+
+    private static void backOfEightFields() {
+        PondHouse h = new PondHouse();
+        Checks.same("name 0 is a field's", Checks.n(h, "p"), 0);
+        Checks.same("pond", Checks.pond(h, "kind a { field p = 1; field q = 2; field r = 3; field s = 4; field t = 5; field u = 6; field w = 7; field x = 8; }"), 1);
+        Checks.create(h, "a");
+        Checks.applies(h, "change a { rename p y; rename x p; }");
+        Checks.applies(h, "change a { rename p x; drop q; field p = 9; drop u; }");
+        put(h, 0, "p", 99);
+        put(h, 0, "x", 80);
+        put(h, 0, "y", 10);
+        Checks.yes("back", h.back());
+        String[] names = {"y", "q", "r", "s", "t", "u", "w", "p"};
+        int[] due = {10, 2, 3, 4, 5, 6, 7, 80};
+        for (int i = 0; i < 8; i++) {
+            Checks.same("field " + names[i], Checks.value(h, 0, names[i]), due[i]);
+            Checks.yes("has " + names[i], Checks.has(h, 0, names[i]));
+        }
+    }
+
+    /** "new ones have the told one", whatever is dropped around them */
+    private static void newStaticsBesideDroppedOnes() {
+        PondHouse h = Checks.house("kind a { static s = 1; static t = 2; }");
+        Checks.applies(h, "change a { static n = 5; static m = 6; drop m; static p = 7; drop s; }");
+        Checks.same("t", fixed(h, "a", "t"), 2);
+        Checks.same("n", fixed(h, "a", "n"), 5);
+        Checks.same("p", fixed(h, "a", "p"), 7);
+        Checks.same("m", fixed(h, "a", "m"), 0);
+        Checks.same("s", fixed(h, "a", "s"), 0);
     }
 }

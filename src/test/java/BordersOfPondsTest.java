@@ -33,6 +33,9 @@ public final class BordersOfPondsTest {
         anActMayBeInSeveral();
         kindTellsSixThings();
         fortyCreatures();
+        theFortiethNameIsAField();
+        theFortiethNameIsAStatic();
+        theFortiethNameIsAnAct();
         endedOnesKeepTheirNumbers();
         noKindOfThatName();
         firstValues();
@@ -793,5 +796,69 @@ public final class BordersOfPondsTest {
         for (int n : new int[] {-2, -1, 40, 41, MIN, MAX}) {
             Checks.same("sum(" + n + ")", h.sum(n), 0);
         }
+    }
+
+    /** "NAMES have numbers 0, 1, ..": the last one, 39, is as good as any, as what it names and as what is lost. */
+    private static void theFortiethNameIsAField() {
+        PondHouse h = Checks.houseOfNames(40);
+        Checks.same("pond", Checks.pond(h, "kind naa { field nbt = 5; act nab { nbt = nbt + 1; give nbt; } }"), 1);
+        h.create(0);
+        Checks.same("first value", h.value(0, 39), 5);
+        Checks.yes("has", h.has(0, 39));
+        Checks.yes("put", h.put(0, 39, 7));
+        Checks.same("act", h.act(0, 1, 0), 0);
+        Checks.same("gave", h.told(0), 8);
+        Checks.same("sum", h.sum(39), 8);
+        Checks.applies(h, "change naa { field nac = 1; carry nac nbt; }");
+        Checks.same("carried", h.value(0, 39), 8);
+        Checks.applies(h, "change naa { drop nbt; }");
+        Checks.no("lost", h.has(0, 39));
+        Checks.same("what is lost", h.value(0, 39), 8);
+        Checks.same("act", h.act(0, 1, 0), 0);
+        Checks.same("lost and one more", h.value(0, 39), 9);
+        Checks.yes("back", h.back());
+        Checks.same("there again", h.value(0, 39), 9);
+        Checks.applies(h, "change naa { drop nac; rename nbt nac; }");
+        Checks.same("renamed", h.value(0, 2), 9);
+        Checks.yes("back", h.back());
+        Checks.same("with its name", h.value(0, 39), 9);
+        Checks.applies(h, "change naa { drop nbt; }");
+        Checks.same("pond", Checks.pond(h, "kind naa { act nab { give nbt; } }"), 1);
+        h.create(0);
+        Checks.same("nothing is lost", h.value(0, 39), 0);
+        Checks.same("act", h.act(0, 1, 0), 1);
+        Checks.same("no such name", h.told(1), 1001);
+    }
+
+    private static void theFortiethNameIsAStatic() {
+        PondHouse h = Checks.houseOfNames(40);
+        Checks.same("pond", Checks.pond(h, "kind naa { static nbt = 5; } kind nab under naa { act nac { nbt = nbt + 1; give nbt; } }"), 2);
+        h.create(1);
+        Checks.same("fixed", h.fixed(0, 39), 5);
+        Checks.same("act", h.act(0, 2, 0), 0);
+        Checks.same("gave", h.told(0), 6);
+        Checks.same("fixed", h.fixed(1, 39), 6);
+        Checks.applies(h, "change naa { static nad = 1; }");
+        Checks.same("kept", h.fixed(0, 39), 6);
+    }
+
+    private static void theFortiethNameIsAnAct() {
+        PondHouse h = Checks.houseOfNames(40);
+        Checks.same("pond", Checks.pond(h, "kind naa { act nbt { give 4; } } kind nbs under naa { act nab { do nbt; give last; } act nbt { above; rest; give last + 1; } }"), 2);
+        Checks.same("kind 38", h.create(38), 0);
+        Checks.same("act", h.act(0, 39, 0), 0);
+        Checks.same("gave", h.told(0), 5);
+        Checks.same("act that does it", h.act(0, 1, 0), 0);
+        Checks.same("gave", h.told(0), 5);
+        Checks.same("begin", h.begin(0, 39, 0), 0);
+        Checks.yes("wake", h.wake(39));
+        h.beat();
+        Checks.same("outcome", h.outcome(0), 0);
+        for (int i = 0; i < 3; i++) {
+            Checks.same("ran, the act", h.ran(i, 1), 39);
+            Checks.same("ran, the kind", h.ran(i, 2), i == 0 ? 38 : 0);
+        }
+        h.beat();
+        Checks.same("gave at its end", h.under(0, 5), 5);
     }
 }

@@ -37,6 +37,7 @@ public final class BordersOfRunsTest {
         failingEndsTheWholeRun();
         fuelOfOneBody();
         fuelOfCalls();
+        fuelOfAssignments();
         spentAheadOfAFailure();
         ifsAreStatements();
         restIsNothing();
@@ -612,5 +613,15 @@ public final class BordersOfRunsTest {
             }
             Checks.act(h, 0, "g", 0);
         }
+    }
+
+    /** "FUEL: 500 STATEMENTS a run": the last one still does what it says. */
+    private static void fuelOfAssignments() {
+        PondHouse h = Checks.house("kind a { field x = 0; static s = 0; act f { " + Checks.times(27, "x = x + 1; s = s - (x - 1); ") + "} act g { "
+                + Checks.times(8, "do f; ") + "if x < 433 { do f; } else { } give x * 2 - -1; } }");
+        Checks.create(h, "a");
+        Checks.same("g", Checks.act(h, 0, "g", 0), 0);
+        Checks.same("gave", h.told(0), 2 * 9 * 27 + 1);
+        Checks.same("took", h.told(2), 8 + 2 + 9 * 54 + 1);
     }
 }

@@ -21,6 +21,8 @@ public final class BordersOfTextsTest {
         oneSignOfANumber();
         theEndOfAPond();
         theEndOfAPatch();
+        aTokenIsMissingInAPond();
+        aTokenIsMissingInAPatch();
         theFirstFaultByItsPlace();
         oneIsLessThanTwoAndThree();
         twoIsLessThanThree();
@@ -717,5 +719,39 @@ public final class BordersOfTextsTest {
             Checks.same("its number", Checks.n(h, more[i].substring(0, 1)), i);
         }
         Checks.same("what stood behind has none", Checks.n(h, "b"), more.length);
+    }
+
+    /** "1 what can't stand there": where a token is missing, that is the next one, also if all else is there. */
+    private static void aTokenIsMissingInAPond() {
+        String[] kinds = {"^a { }", "kind ^{ }", "kind a ^}", "kind a { ^", "kind a under ^{ }", "kind a ^a { }", "kind a { } ^b { }"};
+        for (String marked : kinds) {
+            Checks.pondFault(1, marked);
+        }
+        String[] members = {"^x = 1;", "field ^= 1;", "field x ^1;", "field x ^-1;", "field x = ^;", "field x = -^;", "field x = 1 ^",
+            "link ^;", "link x ^", "static ^= 1;", "static x ^1;", "static x ^-1;", "static x = 1 ^", "act ^{ }", "act g ^",
+            "act g ^x = 1; }", "act g ^rest; }", "act g { ^"};
+        for (String marked : members) {
+            Checks.pondFault(1, "kind a { " + marked + (marked.equals("act g { ^") ? "" : "}"));
+        }
+        String[] statements = {"^= 1;", "x ^1;", "x ^(1);", "x ^-1;", "x = ^;", "x = 1 ^", "give ^;", "give 1 ^", "fail ^;", "fail 1 ^",
+            "above ^", "do ^;", "do g ^", "send ^;", "send x ^;", "send x g ^", "rest ^", "if ^{ }", "if 1 ^}", "if 1 ^x = 1; }",
+            "if 1 { } ^{ }", "if 1 { } else ^}", "if 1 { } else ^x = 1; }", "x = (1 ^;", "x = 1 ^);", "x = 1 ^2;", "x = 1 + ^;", "x = ^* 1;"};
+        for (String marked : statements) {
+            Checks.pondFault(1, "kind a { act g { " + marked + "} }");
+        }
+    }
+
+    private static void aTokenIsMissingInAPatch() {
+        String[] changes = {"change ^{ }", "change a ^}", "change a ^", "change a ^drop x; }", "^a { }", "drop ^;", "drop a ^", "drop a ^drop b;",
+            "move ^;", "move ^under b;", "move a ^", "move a under ^;", "move a ^b;", "move a under b ^", "check ^1;", "check a ^;", "check a 1 ^",
+            "kind ^{ }", "kind a ^}", "kind a ^drop x; }"};
+        for (String marked : changes) {
+            Checks.patchFault(1, marked);
+        }
+        String[] edits = {"^x;", "drop ^;", "drop x ^", "rename ^;", "rename x ^;", "rename x y ^", "carry ^1;", "carry x ^;", "carry x 1 ^",
+            "field x ^1;", "link x ^", "static x ^-1;", "act g ^"};
+        for (String marked : edits) {
+            Checks.patchFault(1, "change a { " + marked + "}");
+        }
     }
 }
